@@ -24,6 +24,7 @@ public final class CutsTest {
         Due.due("cut(10, 0)", x.cut(10, 0), 0);
         Due.due("cut(131, 0)", x.cut(131, 0), 0);
         Due.due("cut(131, 1)", x.cut(131, 1), 5);
+        Due.due("cut(230, 5), first of all", Due.read(MIXED).cut(230, 5), 2);
         RunCuts y = Due.read("!1!1;?0?0");
         row(y, 20, 1, 2, 1, 2, 2, 1);
         row(y, 21, 1, 3, 1, 2, 1, 2);
@@ -162,5 +163,7 @@ public final class CutsTest {
         Due.due("level(1, 1)", z.level(1, 1), RunCuts.UNKNOWN);
         z.local(1, 4);
         Due.due("level(3, 0) after local()", z.level(3, 0), 12);
+        z.back(1);
+        Due.due("cut(11, 5) after back()", z.cut(11, 5), 1);
     }
 }

@@ -84,6 +84,11 @@ public final class PlaysTest {
         shot(v, 0, 2, 210, 0, 3);
         shot(v, 2, 2, 200, 0, 2);
         shot(v, 0, 3, 210, 0, 3);
+        RunCuts w = Due.read("!3;!3;!3;?0?1?2");
+        w.play(0);
+        shot(w, 3, 3, 1110, 0, 3);
+        shot(w, 0, 3, 1111, 0, 4);
+        shot(w, 1, 6, 1113, 0, 6);
         RunCuts z = Due.read(";;;");
         z.play(9);
         shot(z, 3, 0, 0, 0, 0);

@@ -181,6 +181,23 @@ public final class WishesTest {
         Due.due("strong(), an end that no beginning asks for", z.strong(), 1);
         z.allow(1, 8);
         Due.due("strong(), one ends too early", z.strong(), 0);
+        z.allow(0, 2);
+        Due.due("strong(), only the second interval of process 0", z.strong(), 1);
+        RunCuts w = Due.read("3?14;121!0");
+        w.allow(0, 8);
+        w.allow(1, 2);
+        Due.due("strong(), only the second interval of process 1", w.strong(), 1);
+        Due.due("strong() again", w.strong(), 1);
+        w.allow(1, 4);
+        Due.due("strong(), fewer intervals than before", w.strong(), 0);
+        RunCuts v = Due.read("101;202;303");
+        v.allow(0, 2);
+        v.allow(1, 4);
+        v.allow(2, 1);
+        Due.due("strong(), three processes without messages", v.strong(), 0);
+        v.allow(0, 3);
+        v.allow(1, 5);
+        Due.due("strong(), two that are always allowed", v.strong(), 1);
     }
 
     private static void intervals() {
